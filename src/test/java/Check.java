@@ -1,0 +1,64 @@
+/** Counts what a test looks at and what is wrong, and ends the test's program accordingly. */
+final class Check {
+    /** A call that may throw. */
+    interface Call {
+        void run();
+    }
+
+    private static final int MOST_SHOWN = 40;
+
+    private final String test;
+    private int looked = 0;
+    private int wrong = 0;
+
+    Check(String test) {
+        this.test = test;
+    }
+
+    void same(String what, long got, long want) {
+        isTrue(what + " is " + got + ", due is " + want, got == want);
+    }
+
+    void same(String what, String got, String want) {
+        isTrue(what + " is " + got + ", due is " + want, got.equals(want));
+    }
+
+    void isTrue(String complaint, boolean holds) {
+        looked++;
+        if (!holds) {
+            wrong++;
+            if (wrong <= MOST_SHOWN) {
+                System.out.println(test + ": " + complaint);
+            }
+        }
+    }
+
+    void badArgument(String what, Call call) {
+        same(what, thrownBy(call), "IllegalArgumentException");
+    }
+
+    void badIndex(String what, Call call) {
+        same(what, thrownBy(call), "IndexOutOfBoundsException");
+    }
+
+    void badState(String what, Call call) {
+        same(what, thrownBy(call), "IllegalStateException");
+    }
+
+    /** The exact class, since a call must not throw by itself, such as by an array's index. */
+    private static String thrownBy(Call call) {
+        try {
+            call.run();
+        } catch (RuntimeException thrown) {
+            return thrown.getClass().getSimpleName();
+        }
+        return "nothing thrown";
+    }
+
+    void end() {
+        System.out.println(test + ": " + looked + " looked at, " + wrong + " wrong");
+        if (wrong != 0 || looked == 0) {
+            System.exit(1);
+        }
+    }
+}

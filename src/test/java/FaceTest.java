@@ -1,0 +1,138 @@
+import java.lang.reflect.Constructor;
+import java.lang.reflect.Field;
+import java.lang.reflect.Method;
+import java.lang.reflect.Modifier;
+import java.util.Arrays;
+import java.util.Set;
+import java.util.TreeSet;
+
+/** The public face as the document writes it, promise 1, and rules 1, 5 and 11 of LANGUAGE.md as far as they can be seen from outside. */
+final class FaceTest {
+    private static final String[] FACE = {
+        "void people(int) throws IllegalArgumentException",
+        "void items(int) throws IllegalArgumentException",
+        "int value(int, int, int) throws IllegalArgumentException, IndexOutOfBoundsException",
+        "void picks(int) throws IndexOutOfBoundsException",
+        "int circles()",
+        "long product() throws IllegalStateException",
+        "int give(int, int) throws IndexOutOfBoundsException",
+        "int holder(int) throws IndexOutOfBoundsException",
+        "int worth(int, int) throws IndexOutOfBoundsException",
+        "int envy(int, int, boolean) throws IndexOutOfBoundsException",
+        "int guarantee(int) throws IndexOutOfBoundsException, IllegalStateException",
+        "int room(int, int, int) throws IllegalArgumentException, IndexOutOfBoundsException",
+        "int total(int) throws IllegalArgumentException",
+        "int rooms() throws IllegalStateException",
+        "long rent(int, int) throws IndexOutOfBoundsException, IllegalStateException",
+        "void cake(int) throws IllegalArgumentException",
+        "int density(int, int, int) throws IllegalArgumentException, IndexOutOfBoundsException",
+        "void cut(boolean)",
+        "long piece(int, int) throws IndexOutOfBoundsException, IllegalStateException",
+        "long taste(int, int, int) throws IndexOutOfBoundsException, IllegalStateException",
+    };
+
+    private static final Check CHECK = new Check("FaceTest");
+
+    public static void main(String[] args) {
+        faceIsTheDocuments();
+        nothingElseCanBeSeen();
+        insideKeepsToTheRules();
+        newObject();
+        CHECK.end();
+    }
+
+    private static void faceIsTheDocuments() {
+        CHECK.same("NONE", FairDesk.NONE, -1);
+        int kind = FairDesk.class.getModifiers();
+        CHECK.isTrue("the class is not public and final", Modifier.isPublic(kind) && Modifier.isFinal(kind));
+        Set<String> seen = new TreeSet<>();
+        for (Method method : FairDesk.class.getDeclaredMethods()) {
+            if (Modifier.isPublic(method.getModifiers())) {
+                CHECK.isTrue(method + " is static", !Modifier.isStatic(method.getModifiers()));
+                seen.add(written(method));
+            }
+        }
+        CHECK.same("the face", seen.toString(), new TreeSet<>(Arrays.asList(FACE)).toString());
+    }
+
+    private static String written(Method method) {
+        String line = method.getReturnType().getSimpleName() + " " + method.getName() + "(" + names(method.getParameterTypes()) + ")";
+        String thrown = names(method.getExceptionTypes());
+        return thrown.isEmpty() ? line : line + " throws " + thrown;
+    }
+
+    private static String names(Class<?>[] classes) {
+        StringBuilder text = new StringBuilder();
+        for (Class<?> one : classes) {
+            text.append(text.length() == 0 ? "" : ", ").append(one.getSimpleName());
+        }
+        return text.toString();
+    }
+
+    private static void nothingElseCanBeSeen() {
+        for (Method method : FairDesk.class.getDeclaredMethods()) {
+            CHECK.isTrue(method + " can be seen", Modifier.isPublic(method.getModifiers()) || Modifier.isPrivate(method.getModifiers()));
+        }
+        for (Field field : FairDesk.class.getDeclaredFields()) {
+            CHECK.isTrue(field + " can be seen", field.getName().equals("NONE") || Modifier.isPrivate(field.getModifiers()));
+        }
+        Constructor<?>[] constructors = FairDesk.class.getDeclaredConstructors();
+        CHECK.same("the number of constructors", constructors.length, 1);
+        CHECK.same("the constructor's parameters", constructors[0].getParameterCount(), 0);
+        CHECK.isTrue("the constructor is not public", Modifier.isPublic(constructors[0].getModifiers()));
+    }
+
+    private static void insideKeepsToTheRules() {
+        Set<String> publicNames = new TreeSet<>();
+        for (String line : FACE) {
+            publicNames.add(line.substring(line.indexOf(' ') + 1, line.indexOf('(')));
+        }
+        Class<?>[] inside = FairDesk.class.getDeclaredClasses();
+        CHECK.isTrue("more than twelve classes", inside.length < 12);
+        for (Class<?> one : inside) {
+            CHECK.isTrue(one + " is not static, or public", Modifier.isStatic(one.getModifiers()) && !Modifier.isPublic(one.getModifiers()));
+            CHECK.isTrue(one + " has many fields", one.getDeclaredFields().length <= 20);
+            for (Method method : one.getDeclaredMethods()) {
+                CHECK.isTrue(method + " bears the name of a public one", !publicNames.contains(method.getName()));
+                CHECK.isTrue(method + " has many parameters", method.getParameterCount() <= 7);
+            }
+            for (Field field : one.getDeclaredFields()) {
+                CHECK.isTrue(field + " is static and can be changed", isFinalIfStatic(field));
+            }
+        }
+        for (Method method : FairDesk.class.getDeclaredMethods()) {
+            boolean hidden = Modifier.isPrivate(method.getModifiers());
+            CHECK.isTrue(method + " bears the name of a public one", !(hidden && publicNames.contains(method.getName())));
+        }
+        for (Field field : FairDesk.class.getDeclaredFields()) {
+            CHECK.isTrue(field + " is static and can be changed", isFinalIfStatic(field));
+        }
+    }
+
+    private static boolean isFinalIfStatic(Field field) {
+        return !Modifier.isStatic(field.getModifiers()) || Modifier.isFinal(field.getModifiers());
+    }
+
+    private static void newObject() {
+        FairDesk desk = new FairDesk();
+        CHECK.badIndex("no items: holder(0)", () -> desk.holder(0));
+        CHECK.same("worth(0, 0)", desk.worth(0, 0), 0);
+        CHECK.badIndex("one person: worth(0, 1)", () -> desk.worth(0, 1));
+        CHECK.badState("rooms not divided: rent(0, 0)", () -> desk.rent(0, 0));
+        CHECK.badState("cake not cut: piece(0, 0)", () -> desk.piece(0, 0));
+        CHECK.badState("cake not cut: taste(0, 0, 0)", () -> desk.taste(0, 0, 0));
+        CHECK.same("guarantee(0)", desk.guarantee(0), 0);
+        CHECK.same("product()", desk.product(), 1);
+        CHECK.same("circles()", desk.circles(), 0);
+        CHECK.same("room(0, 0, 0)", desk.room(0, 0, 0), 0);
+        CHECK.same("total(0)", desk.total(0), 0);
+        CHECK.same("rooms()", desk.rooms(), 0);
+        for (int k = 0; k < 16; k++) {
+            CHECK.same("density of part " + k, desk.density(0, k, 0), 0);
+        }
+        desk.cut(false);
+        CHECK.same("the cake's length", desk.piece(0, 2), 1);
+        CHECK.same("below the line", desk.piece(0, 3), 1);
+        CHECK.same("what the cake is worth", desk.taste(0, 0, 0), 0);
+    }
+}
