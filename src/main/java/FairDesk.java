@@ -595,9 +595,10 @@ public final class FairDesk {
         }
 
         /**
-         * How much more than the least saving each person must save at least, so that nobody envies:
-         * p saves no less than q saves and q's room is worth more to p than to q. No chain of these
-         * needs more steps than there are people, since the rooms are divided best.
+         * How much more than the least saving each person must save at least, so that nobody envies: p must
+         * save what q saves and, on top, by how much more q's room is worth to p than to q. A chain of these
+         * never gains by coming back to somebody, since the rooms are divided best: so it has fewer steps
+         * than there are people.
          */
         private void findLeads() {
             for (int p = 0; p < people; p++) {
@@ -613,7 +614,10 @@ public final class FairDesk {
             }
         }
 
-        /** What is saved in all, less the leads, is the least saving times the number of people. */
+        /**
+         * Of what all save together the leads are taken first, and each gets an equal part of the rest:
+         * to give one more would leave another less than the least saving.
+         */
         private void setRents() {
             long leastSavings = bestSum - totalRent;
             for (int p = 0; p < people; p++) {
@@ -699,6 +703,7 @@ public final class FairDesk {
                 markNthParts();
                 serveUpToMark(leastMarked());
             }
+            // The rest goes to the last one as if they had marked the cake's end.
             for (int p = 0; p < people; p++) {
                 marks[p].become(length, 1);
             }
@@ -758,7 +763,7 @@ public final class FairDesk {
             for (int i = from; i < to; i++) {
                 int p = order[i];
                 weigh(p, begins[p], ends[p], amount);
-                amount.become(amount.top * half, amount.bottom * group);
+                amount.scale(half, group);
                 mark(p, begins[p]);
             }
             sortByMarks(from, to);
@@ -834,6 +839,11 @@ public final class FairDesk {
             long divisor = greatestDivisor(Math.abs(newTop), newBottom);
             top = newTop / divisor;
             bottom = newBottom / divisor;
+        }
+
+        /** Multiplies it by one number over another, which is above 0. */
+        void scale(long by, long over) {
+            become(top * by, bottom * over);
         }
 
         void becomeLike(Fraction other) {
