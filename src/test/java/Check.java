@@ -8,11 +8,26 @@ final class Check {
     private static final int MOST_SHOWN = 40;
 
     private final String test;
+    private String sentence = "";
+    private int lookedBefore = -1;
     private int looked = 0;
     private int wrong = 0;
 
     Check(String test) {
         this.test = test;
+    }
+
+    /** What is looked at from now on is for these words of the document; a complaint tells them. */
+    void sentence(String words) {
+        endSentence();
+        sentence = "\"" + words + "\": ";
+        lookedBefore = looked;
+    }
+
+    private void endSentence() {
+        if (looked == lookedBefore) {
+            isTrue("nothing was looked at", false);
+        }
     }
 
     void same(String what, long got, long want) {
@@ -28,9 +43,13 @@ final class Check {
         if (!holds) {
             wrong++;
             if (wrong <= MOST_SHOWN) {
-                System.out.println(test + ": " + complaint);
+                System.out.println(test + ": " + sentence + complaint);
             }
         }
+    }
+
+    void taken(String what, Call call) {
+        same(what, thrownBy(call), "nothing thrown");
     }
 
     void badArgument(String what, Call call) {
@@ -46,7 +65,7 @@ final class Check {
     }
 
     /** The exact class, since a call must not throw by itself, such as by an array's index. */
-    private static String thrownBy(Call call) {
+    static String thrownBy(Call call) {
         try {
             call.run();
         } catch (RuntimeException thrown) {
@@ -56,6 +75,7 @@ final class Check {
     }
 
     void end() {
+        endSentence();
         System.out.println(test + ": " + looked + " looked at, " + wrong + " wrong");
         if (wrong != 0 || looked == 0) {
             System.exit(1);
