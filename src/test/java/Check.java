@@ -17,10 +17,10 @@ final class Check {
         this.test = test;
     }
 
-    /** What is looked at from now on is for these words of the document; a complaint tells them. */
-    void sentence(String words) {
+    /** What is looked at from now on is for these words of a part of the document; a complaint tells them. */
+    void sentence(String part, String words) {
         endSentence();
-        sentence = "\"" + words + "\": ";
+        sentence = part + ", \"" + words + "\": ";
         lookedBefore = looked;
     }
 

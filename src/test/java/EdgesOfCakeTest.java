@@ -19,6 +19,7 @@ final class EdgesOfCakeTest {
         halvesOfAnOddNumber();
         halvesOfAnEvenNumber();
         halvesOfTheSameMarks();
+        cutAnew();
         pieceOfNoSuchPersonOrWhat();
         pieceWhenNotCut();
         tasteOfNoSuchPersonOrWhat();
@@ -43,7 +44,7 @@ final class EdgesOfCakeTest {
     }
 
     private static void lengthIsOneToSixteen() {
-        CHECK.sentence("IllegalArgumentException, when it is not 1 .. 16.");
+        CHECK.sentence("Promise 17", "IllegalArgumentException, when it is not 1 .. 16.");
         FairDesk desk = new FairDesk();
         desk.cake(16);
         pieces("the greatest", desk, false, 1, "0/1 to 16/1");
@@ -59,7 +60,7 @@ final class EdgesOfCakeTest {
     }
 
     private static void densitiesThatWereToldStay() {
-        CHECK.sentence("densities that were told stay (others are 0)");
+        CHECK.sentence("Promise 17", "densities that were told stay (others are 0)");
         FairDesk desk = Desks.ofPeople(2);
         desk.density(1, 15, 12);
         desk.density(1, 0, 1);
@@ -79,7 +80,7 @@ final class EdgesOfCakeTest {
     }
 
     private static void afterCakeItIsNotCut() {
-        CHECK.sentence("it is not cut");
+        CHECK.sentence("Promise 17", "it is not cut");
         FairDesk desk = Desks.withCake(Desks.row(1, 1));
         for (int length : new int[] {1, 2, 2, 16}) {
             desk.cut(false);
@@ -91,7 +92,7 @@ final class EdgesOfCakeTest {
     }
 
     private static void densitiesAreNothingToTwelve() {
-        CHECK.sentence("IllegalArgumentException, when v is not 0 .. 12");
+        CHECK.sentence("Promise 18", "IllegalArgumentException, when v is not 0 .. 12");
         FairDesk desk = Desks.withCake(Desks.row(1, 2), Desks.row(3, 4));
         for (int v : Desks.outside(0, 12)) {
             CHECK.badArgument("density(1, 1, " + v + ")", () -> desk.density(1, 1, v));
@@ -102,7 +103,7 @@ final class EdgesOfCakeTest {
     }
 
     private static void noSuchPersonOrPart() {
-        CHECK.sentence("IndexOutOfBoundsException, when there is no such person, or k is not 0 .. 15.");
+        CHECK.sentence("Promise 18", "IndexOutOfBoundsException, when there is no such person, or k is not 0 .. 15.");
         FairDesk desk = Desks.withCake(Desks.row(1, 2), Desks.row(3, 4));
         for (int none : Desks.outside(0, 1)) {
             CHECK.badIndex("density(" + none + ", 0, 9)", () -> desk.density(none, 0, 9));
@@ -119,7 +120,7 @@ final class EdgesOfCakeTest {
     }
 
     private static void densityTellsWhatItWas() {
-        CHECK.sentence("A density becomes v: what it was.");
+        CHECK.sentence("Promise 18", "A density becomes v: what it was.");
         FairDesk desk = Desks.ofPeople(6);
         CHECK.same("the last part to the last person at first", desk.density(5, 15, 12), 0);
         CHECK.same("then", desk.density(5, 15, 0), 12);
@@ -129,7 +130,7 @@ final class EdgesOfCakeTest {
     }
 
     private static void howTheCakeIsCutStays() {
-        CHECK.sentence("How the cake is cut stays.");
+        CHECK.sentence("Promise 18", "How the cake is cut stays.");
         for (boolean halves : new boolean[] {false, true}) {
             FairDesk desk = Desks.withCake(Desks.row(1, 1), Desks.row(1, 1));
             pieces("cut", desk, halves, 2, "0/1 to 1/1, 1/1 to 2/1");
@@ -145,7 +146,7 @@ final class EdgesOfCakeTest {
     }
 
     private static void markOfNothing() {
-        CHECK.sentence("(of 0: that place)");
+        CHECK.sentence("Terms", "(of 0: that place)");
         for (boolean halves : new boolean[] {false, true}) {
             FairDesk first = Desks.withCake(Desks.row(0, 0), Desks.row(0, 12));
             pieces("worth nothing to the first", first, halves, 2, "0/1 to 0/1, 0/1 to 2/1");
@@ -158,7 +159,7 @@ final class EdgesOfCakeTest {
     }
 
     private static void markIsTheLeastPlace() {
-        CHECK.sentence("the least place up to which the stretch from there is worth that amount at least");
+        CHECK.sentence("Terms", "the least place up to which the stretch from there is worth that amount at least");
         for (boolean halves : new boolean[] {false, true}) {
             FairDesk gap = Desks.withCake(Desks.row(1, 0, 0, 1), Desks.row(1, 0, 0, 1));
             pieces("not on over what is worth nothing", gap, halves, 2, "0/1 to 1/1, 1/1 to 4/1");
@@ -170,7 +171,7 @@ final class EdgesOfCakeTest {
     }
 
     private static void leastMarksAsLongAsTwoAreLeft() {
-        CHECK.sentence("as long as two are left: each who is left has the mark of an n-th of what the whole cake is worth "
+        CHECK.sentence("Terms", "as long as two are left: each who is left has the mark of an n-th of what the whole cake is worth "
                 + "to them, from where it goes on");
         pieces("five", eachAnotherPart(5), false, 5, "0/1 to 1/5, 1/5 to 6/5, 6/5 to 11/5, 11/5 to 16/5, 16/5 to 5/1");
         pieces("two", eachAnotherPart(2), false, 2, "0/1 to 1/2, 1/2 to 2/1");
@@ -180,7 +181,7 @@ final class EdgesOfCakeTest {
     }
 
     private static void leastMarksOfSeveral() {
-        CHECK.sentence("the one whose mark is least (of several the lowest)");
+        CHECK.sentence("Terms", "the one whose mark is least (of several the lowest)");
         FairDesk alike = Desks.withCake(Desks.rowsAlike(6, 1, 12));
         pieces("all the same", alike, false, 6, "0/1 to 1/6, 1/6 to 1/3, 1/3 to 1/2, 1/2 to 2/3, 2/3 to 5/6, 5/6 to 1/1");
         FairDesk later = Desks.withCake(Desks.row(0, 1), Desks.row(1, 0), Desks.row(2, 0));
@@ -188,7 +189,7 @@ final class EdgesOfCakeTest {
     }
 
     private static void leastMarksTheRest() {
-        CHECK.sentence("The last one gets the rest.");
+        CHECK.sentence("Terms", "The last one gets the rest.");
         pieces("one alone", Desks.withCake(Desks.rowsAlike(1, 16, 12)), false, 1, "0/1 to 16/1");
         pieces("one alone, worth nothing", Desks.withCake(Desks.rowsAlike(1, 16, 0)), false, 1, "0/1 to 16/1");
         FairDesk nothing = Desks.withCake(Desks.row(12, 0, 0), Desks.row(12, 0, 0));
@@ -196,7 +197,7 @@ final class EdgesOfCakeTest {
     }
 
     private static void halvesOfOneAlone() {
-        CHECK.sentence("One alone gets it.");
+        CHECK.sentence("Terms", "One alone gets it.");
         pieces("one alone", Desks.withCake(Desks.rowsAlike(1, 16, 12)), true, 1, "0/1 to 16/1");
         pieces("one alone, worth nothing", Desks.withCake(Desks.rowsAlike(1, 16, 0)), true, 1, "0/1 to 16/1");
         FairDesk nothing = Desks.withCake(Desks.row(12, 0, 0), Desks.row(12, 0, 0));
@@ -204,28 +205,39 @@ final class EdgesOfCakeTest {
     }
 
     private static void halvesOfAnOddNumber() {
-        CHECK.sentence("Of g people, h being g / 2 cut");
+        CHECK.sentence("Terms", "Of g people, h being g / 2 cut");
         // Of 12 in its part each has the mark of 2 of 5, then the first two a half, the others a third, and a half.
         pieces("five", eachAnotherPart(5), true, 5, "0/1 to 1/2, 1/2 to 7/5, 7/5 to 7/3, 7/3 to 7/2, 7/2 to 5/1");
         pieces("three", eachAnotherPart(3), true, 3, "0/1 to 1/3, 1/3 to 3/2, 3/2 to 3/1");
     }
 
     private static void halvesOfAnEvenNumber() {
-        CHECK.sentence("the first h of them go on with the stretch up to the greatest mark among theirs, the others with the rest");
+        CHECK.sentence("Terms", "the first h of them go on with the stretch up to the greatest mark among theirs, the others "
+                + "with the rest");
         pieces("four", eachAnotherPart(4), true, 4, "0/1 to 1/2, 1/2 to 3/2, 3/2 to 5/2, 5/2 to 4/1");
         pieces("six", eachAnotherPart(6), true, 6, "0/1 to 1/3, 1/3 to 3/2, 3/2 to 5/2, 5/2 to 10/3, 10/3 to 9/2, 9/2 to 6/1");
     }
 
     private static void halvesOfTheSameMarks() {
-        CHECK.sentence("by their marks, of the same the lower number first");
+        CHECK.sentence("Terms", "by their marks, of the same the lower number first");
         FairDesk alike = Desks.withCake(Desks.rowsAlike(6, 1, 12));
         pieces("all the same", alike, true, 6, "0/1 to 1/6, 1/6 to 1/3, 1/3 to 1/2, 1/2 to 2/3, 2/3 to 5/6, 5/6 to 1/1");
         FairDesk later = Desks.withCake(Desks.row(0, 1), Desks.row(1, 0), Desks.row(2, 0));
         pieces("1 and 2 the same", later, true, 3, "2/3 to 2/1, 0/1 to 1/3, 1/3 to 2/3");
     }
 
+    private static void cutAnew() {
+        CHECK.sentence("Promise 19", "Cuts the cake BY LEAST MARKS, or BY HALVES.");
+        FairDesk desk = eachAnotherPart(3);
+        pieces("first", desk, false, 3, "0/1 to 1/3, 1/3 to 4/3, 4/3 to 3/1");
+        pieces("cut already", desk, true, 3, "0/1 to 1/3, 1/3 to 3/2, 3/2 to 3/1");
+        pieces("cut twice already", desk, false, 3, "0/1 to 1/3, 1/3 to 4/3, 4/3 to 3/1");
+        desk.cake(1);
+        pieces("worth something to the first alone", desk, false, 3, "0/1 to 1/1, 0/1 to 0/1, 0/1 to 0/1");
+    }
+
     private static void pieceOfNoSuchPersonOrWhat() {
-        CHECK.sentence("IndexOutOfBoundsException, when there is no such person, or what (piece)");
+        CHECK.sentence("Promise 20", "IndexOutOfBoundsException, when there is no such person, or what");
         FairDesk cut = Desks.withCake(Desks.row(12, 0, 0), Desks.row(12, 0, 0));
         cut.cut(false);
         FairDesk not = Desks.ofPeople(2);
@@ -243,7 +255,7 @@ final class EdgesOfCakeTest {
     }
 
     private static void pieceWhenNotCut() {
-        CHECK.sentence("IllegalStateException, when the cake is not cut.");
+        CHECK.sentence("Promise 20", "IllegalStateException, when the cake is not cut.");
         FairDesk desk = Desks.withCake(Desks.row(1), Desks.row(1));
         for (int what = 0; what < 4; what++) {
             int part = what;
@@ -256,7 +268,7 @@ final class EdgesOfCakeTest {
     }
 
     private static void tasteOfNoSuchPersonOrWhat() {
-        CHECK.sentence("IndexOutOfBoundsException and IllegalStateException likewise. (taste: no such person or what)");
+        CHECK.sentence("Promise 21", "IndexOutOfBoundsException and IllegalStateException likewise.");
         FairDesk cut = Desks.withCake(Desks.row(12, 0, 0), Desks.row(11, 0, 0));
         cut.cut(false);
         FairDesk not = Desks.ofPeople(2);
@@ -273,7 +285,7 @@ final class EdgesOfCakeTest {
     }
 
     private static void tasteWhenNotCut() {
-        CHECK.sentence("IndexOutOfBoundsException and IllegalStateException likewise. (taste: not cut)");
+        CHECK.sentence("Promise 21", "IndexOutOfBoundsException and IllegalStateException likewise.");
         FairDesk desk = Desks.withCake(Desks.row(1), Desks.row(1));
         CHECK.badState("taste(1, 1, 0)", () -> desk.taste(1, 1, 0));
         CHECK.badState("taste(0, 1, 1)", () -> desk.taste(0, 1, 1));
@@ -284,8 +296,8 @@ final class EdgesOfCakeTest {
     }
 
     private static void fractionsInLowestTerms() {
-        CHECK.sentence("A FRACTION is told in lowest terms, what is above the line (0 above 1 for nothing) and what is "
-                + "below it (above 0). (places and worth)");
+        CHECK.sentence("Terms", "A FRACTION is told in lowest terms, what is above the line (0 above 1 for nothing) and what is "
+                + "below it (above 0).");
         FairDesk desk = Desks.withCake(Desks.row(12, 12), Desks.row(12, 12), Desks.row(3, 0), Desks.row(0, 0));
         pieces("24 by 4 of density 12", desk, false, 4, "1/4 to 3/4, 3/4 to 2/1, 0/1 to 1/4, 0/1 to 0/1");
         CHECK.same("whole", Desks.taste(desk, 0, 0), "6/1");
@@ -296,7 +308,7 @@ final class EdgesOfCakeTest {
     }
 
     private static void worthOfTheWholeCake() {
-        CHECK.sentence("What q's piece is worth to p");
+        CHECK.sentence("Promise 21", "What q's piece is worth to p");
         FairDesk one = Desks.withCake(Desks.rowsAlike(1, 16, 12));
         one.cut(true);
         CHECK.same("the most that there is", Desks.taste(one, 0, 0), "192/1");

@@ -23,6 +23,7 @@ final class EdgesOfDivisionTest {
         productOfSeveral();
         productOfNothing();
         productAtItsGreatest();
+        productOnceMore();
         guaranteeOfAllIntoBundles();
         guaranteeUpToItsLimit();
         guaranteeOfNoSuchPerson();
@@ -46,7 +47,7 @@ final class EdgesOfDivisionTest {
     }
 
     private static void picksFromNoPerson() {
-        CHECK.sentence("IndexOutOfBoundsException, when first is no person.");
+        CHECK.sentence("Promise 5", "IndexOutOfBoundsException, when first is no person.");
         FairDesk desk = Desks.withGoods(Desks.rowsAlike(3, 4, 1));
         desk.give(2, 2);
         for (int none : Desks.outside(0, 2)) {
@@ -56,7 +57,7 @@ final class EdgesOfDivisionTest {
     }
 
     private static void turnsBehindTheLastOne() {
-        CHECK.sentence("from a first person on, the numbers rising, behind the last one the first again");
+        CHECK.sentence("Terms", "the numbers rising, behind the last one the first again");
         FairDesk desk = Desks.withGoods(Desks.rowsAlike(3, 7, 1));
         desk.picks(0);
         holders("from the first one", desk, "0 1 2 0 1 2 0");
@@ -73,7 +74,7 @@ final class EdgesOfDivisionTest {
     }
 
     private static void turnsPutAllBack() {
-        CHECK.sentence("all items are put back (IN TURNS)");
+        CHECK.sentence("Terms", "the numbers rising, behind the last one the first again: all items are put back");
         FairDesk desk = Desks.withGoods(Desks.rowsAlike(2, 3, 1));
         desk.give(0, 1);
         desk.give(2, 1);
@@ -82,7 +83,7 @@ final class EdgesOfDivisionTest {
     }
 
     private static void turnsAsLongAsThereAreItems() {
-        CHECK.sentence("whose turn it is takes, as long as there are items");
+        CHECK.sentence("Terms", "whose turn it is takes, as long as there are items");
         FairDesk none = Desks.ofPeople(6);
         CHECK.taken("no items", () -> none.picks(5));
         FairDesk few = Desks.withGoods(Desks.rowsAlike(6, 2, 1));
@@ -95,7 +96,7 @@ final class EdgesOfDivisionTest {
     }
 
     private static void turnsOfSeveralTheLowest() {
-        CHECK.sentence("of those left that of the greatest value to them, of several the lowest");
+        CHECK.sentence("Terms", "of those left that of the greatest value to them, of several the lowest");
         FairDesk desk = Desks.withGoods(Desks.row(0, 1000, 999, 1000), Desks.row(1, 0, 2, 2));
         desk.picks(0);
         holders("the greatest two times", desk, "1 0 1 0");
@@ -107,7 +108,7 @@ final class EdgesOfDivisionTest {
     }
 
     private static void circlesPutAllBack() {
-        CHECK.sentence("all items are put back (BY CIRCLES)");
+        CHECK.sentence("Terms", "BY CIRCLES: all items are put back");
         FairDesk desk = Desks.withGoods(Desks.row(1, 1), Desks.row(1, 1));
         desk.give(0, 1);
         desk.give(1, 1);
@@ -116,7 +117,7 @@ final class EdgesOfDivisionTest {
     }
 
     private static void circlesGiveToTheLowest() {
-        CHECK.sentence("each item, in rising order, is given to the lowest person whom nobody envies");
+        CHECK.sentence("Terms", "each item, in rising order, is given to the lowest person whom nobody envies");
         circles("nobody is envied", Desks.withGoods(Desks.rowsAlike(3, 3, 0)), 0, "0 0 0");
         circles("each one is envied with an item", Desks.withGoods(Desks.rowsAlike(6, 12, 1)), 0,
                 "0 1 2 3 4 5 0 1 2 3 4 5");
@@ -125,7 +126,7 @@ final class EdgesOfDivisionTest {
     }
 
     private static void circlesAsLongAsThereIsNone() {
-        CHECK.sentence("As long as there is none such, before, a circle is turned");
+        CHECK.sentence("Terms", "As long as there is none such, before, a circle is turned");
         // 0 and 1 change shares, but 2 still envies them both; then 2 and 3 change, and item 4 is given.
         int[][] rows = {{1, 5, 0, 0, 1}, {5, 1, 0, 0, 1}, {2, 2, 1, 5, 1}, {0, 0, 5, 1, 1}};
         circles("two circles before one item", Desks.withGoods(rows), 2, "1 0 3 2 0");
@@ -134,31 +135,41 @@ final class EdgesOfDivisionTest {
     }
 
     private static void circleOfTheLowestWhoEnvies() {
-        CHECK.sentence("going from person 0 on, each time to the lowest person who envies the one where one stands");
+        CHECK.sentence("Terms", "going from person 0 on, each time to the lowest person who envies the one where one stands");
         // 1 and 2 envy 0: by 1 the circle is 0 and 1, by 2 it would be all three.
         FairDesk desk = Desks.withGoods(Desks.row(1, 5, 0, 0), Desks.row(5, 1, 3, 0), Desks.row(5, 0, 1, 0));
         circles("two envy person 0", desk, 1, "1 0 2 0");
+        // 0 and 2 envy each other, 1 and 3 do so too: only those change shares that one comes to from 0.
+        int[][] rows = {{1, 0, 5, 0, 0}, {0, 1, 0, 5, 0}, {5, 0, 1, 0, 0}, {0, 5, 0, 1, 0}};
+        circles("from person 0 on", Desks.withGoods(rows), 1, "2 1 0 3 0");
     }
 
     private static void circleFromThatOneOn() {
-        CHECK.sentence("until one comes to a person for the second time; all from that one on are the circle");
+        CHECK.sentence("Terms", "until one comes to a person for the second time; all from that one on are the circle");
         // From 0 one goes to 1, then to 2 and back to 1: 0 keeps its share.
         FairDesk tail = Desks.withGoods(Desks.row(9, 0, 0, 1), Desks.row(9, 1, 9, 1), Desks.row(0, 9, 1, 1));
         circles("0 is not on it", tail, 1, "0 2 1 0");
     }
 
     private static void circleAllAtOnce() {
-        CHECK.sentence("each of them gets the share of that one whom they envy there, all at once");
+        CHECK.sentence("Terms", "each of them gets the share of that one whom they envy there (the one gone from to them), all at once");
         int[][] rows = new int[6][7];
         for (int p = 0; p < 6; p++) {
             rows[p][p] = 1;
             rows[p][(p + 5) % 6] = 5;
         }
         circles("all six, each gets what the one before had", Desks.withGoods(rows), 1, "1 2 3 4 5 0 0");
+        // The circle is turned before item 2; of twelve items ten are nobody's then.
+        int[][] two = new int[2][12];
+        two[0][0] = 1;
+        two[0][1] = 5;
+        two[1][0] = 5;
+        two[1][1] = 1;
+        circles("twelve items", Desks.withGoods(two), 1, "1 0 0 0 0 0 0 0 0 0 0 0");
     }
 
     private static void circlesWhenNothingIsToDivide() {
-        CHECK.sentence("Divides the goods BY CIRCLES: how many circles were turned.");
+        CHECK.sentence("Promise 6", "Divides the goods BY CIRCLES: how many circles were turned.");
         CHECK.same("no items", Desks.ofPeople(6).circles(), 0);
         circles("one alone", Desks.withGoods(Desks.rowsAlike(1, 12, 1000)), 0, "0 0 0 0 0 0 0 0 0 0 0 0");
         FairDesk many = Desks.withGoods(Desks.rowsAlike(6, 12, 1000));
@@ -166,7 +177,7 @@ final class EdgesOfDivisionTest {
     }
 
     private static void productUpToItsLimit() {
-        CHECK.sentence("BY PRODUCT, when n to the m-th is at most 65536");
+        CHECK.sentence("Terms", "BY PRODUCT, when n to the m-th is at most 65536");
         String[] holders = {"0 0 0 0 0 0 0 0 0 0 0 0", "0 0 0 0 0 0 1 1 1 1 1 1", "0 0 0 0 1 1 1 2 2 2",
             "0 0 1 1 2 2 3 3", "0 0 1 2 3 4", "0 1 2 3 4 5"};
         long[] products = {12, 36, 36, 16, 2, 1};
@@ -177,7 +188,7 @@ final class EdgesOfDivisionTest {
     }
 
     private static void productBeyondItsLimit() {
-        CHECK.sentence("IllegalStateException, when n to the m-th is above 65536. (product)");
+        CHECK.sentence("Promise 7", "IllegalStateException, when n to the m-th is above 65536.");
         for (int n = 3; n <= 6; n++) {
             for (int m = MOST_ITEMS[n - 1] + 1; m <= 12; m++) {
                 FairDesk desk = Desks.withGoods(Desks.rowsAlike(n, m, 1));
@@ -192,14 +203,14 @@ final class EdgesOfDivisionTest {
     }
 
     private static void productOfTheMostPeople() {
-        CHECK.sentence("that in which the most people have shares that are worth something to them");
+        CHECK.sentence("Terms", "that in which the most people have shares that are worth something to them");
         product("1 times 1 before 1000 alone", Desks.withGoods(Desks.row(1000, 1), Desks.row(1, 0)), 1, "1 0");
         product("who values nothing does not count", Desks.withGoods(Desks.row(0, 0), Desks.row(1, 2)), 3, "1 1");
         product("fewer items than people", Desks.withGoods(Desks.row(0), Desks.row(3), Desks.row(4)), 4, "2");
     }
 
     private static void productOfSeveral() {
-        CHECK.sentence("of several, that in which the lowest item whose holders differ has the lower one");
+        CHECK.sentence("Terms", "of several, that in which the lowest item whose holders differ has the lower one");
         product("all alike", Desks.withGoods(Desks.rowsAlike(2, 2, 1000)), 1000000, "0 1");
         product("one item", Desks.withGoods(Desks.rowsAlike(6, 1, 1)), 1, "0");
         product("what is worth nothing to anybody", Desks.withGoods(Desks.row(0, 5, 0), Desks.row(0, 5, 5)), 25, "0 0 1");
@@ -207,14 +218,14 @@ final class EdgesOfDivisionTest {
     }
 
     private static void productOfNothing() {
-        CHECK.sentence("1 when no share is worth anything to its holder");
+        CHECK.sentence("Promise 7", "1 when no share is worth anything to its holder");
         product("no items", Desks.ofPeople(6), 1, "");
         product("no values", Desks.withGoods(Desks.rowsAlike(4, 8, 0)), 1, "0 0 0 0 0 0 0 0");
         product("one alone", Desks.withGoods(Desks.row(0)), 1, "0");
     }
 
     private static void productAtItsGreatest() {
-        CHECK.sentence("Divides the goods BY PRODUCT: that product");
+        CHECK.sentence("Promise 7", "Divides the goods BY PRODUCT: that product");
         product("six", Desks.withGoods(Desks.rowsAlike(6, 6, 1000)), 1000000000000000000L, "0 1 2 3 4 5");
         product("five", Desks.withGoods(Desks.rowsAlike(5, 6, 1000)), 2000000000000000L, "0 0 1 2 3 4");
         product("one", Desks.withGoods(Desks.rowsAlike(1, 12, 1000)), 12000, "0 0 0 0 0 0 0 0 0 0 0 0");
@@ -224,8 +235,23 @@ final class EdgesOfDivisionTest {
         product("whoever held it before", held, 9, "0 1");
     }
 
+    private static void productOnceMore() {
+        CHECK.sentence("Terms", "of all ways to give each item to a person");
+        FairDesk desk = Desks.withGoods(Desks.row(9, 8, 7), Desks.row(9, 8, 7));
+        product("three items", desk, 135, "0 1 1");
+        desk.picks(1);
+        product("after another division", desk, 135, "0 1 1");
+        desk.items(2);
+        product("the last one is gone", desk, 72, "0 1");
+        desk.value(0, 0, 0);
+        desk.value(0, 1, 0);
+        product("one has lost all values", desk, 17, "1 1");
+        desk.items(3);
+        product("a new one of no value", desk, 17, "1 1 0");
+    }
+
     private static void guaranteeOfAllIntoBundles() {
-        CHECK.sentence("Of all ways to put all items into n bundles: the greatest that the bundle which is worth least");
+        CHECK.sentence("Promise 12", "Of all ways to put all items into n bundles");
         CHECK.same("no items", Desks.ofPeople(6).guarantee(5), 0);
         CHECK.same("fewer items than people", Desks.withGoods(Desks.rowsAlike(6, 5, 1000)).guarantee(0), 0);
         CHECK.same("as many as people", Desks.withGoods(Desks.rowsAlike(6, 6, 1000)).guarantee(5), 1000);
@@ -238,7 +264,7 @@ final class EdgesOfDivisionTest {
     }
 
     private static void guaranteeUpToItsLimit() {
-        CHECK.sentence("guarantee at n to the m-th just below or at 65536");
+        CHECK.sentence("Promise 12", "the greatest that the bundle which is worth least to p can be worth");
         int[] due = {12000, 6000, 3000, 2000, 1000, 1000};
         for (int n = 1; n <= 6; n++) {
             FairDesk desk = Desks.withGoods(Desks.rowsAlike(n, MOST_ITEMS[n - 1], 1000));
@@ -247,7 +273,7 @@ final class EdgesOfDivisionTest {
     }
 
     private static void guaranteeOfNoSuchPerson() {
-        CHECK.sentence("IndexOutOfBoundsException, when there is no such person (guarantee)");
+        CHECK.sentence("Promise 12", "IndexOutOfBoundsException, when there is no such person;");
         FairDesk few = Desks.withGoods(Desks.rowsAlike(4, 8, 1));
         FairDesk many = Desks.withGoods(Desks.rowsAlike(4, 9, 1));
         for (int none : Desks.outside(0, 3)) {
@@ -257,7 +283,7 @@ final class EdgesOfDivisionTest {
     }
 
     private static void guaranteeBeyondItsLimit() {
-        CHECK.sentence("IllegalStateException, when n to the m-th is above 65536. (guarantee)");
+        CHECK.sentence("Promise 12", "IllegalStateException, when n to the m-th is above 65536.");
         for (int n = 3; n <= 6; n++) {
             for (int m = MOST_ITEMS[n - 1] + 1; m <= 12; m++) {
                 FairDesk desk = Desks.withGoods(Desks.rowsAlike(n, m, 1));

@@ -24,7 +24,7 @@ final class EdgesOfGoodsTest {
     }
 
     private static void itemsAreNoneToTwelve() {
-        CHECK.sentence("IllegalArgumentException, when m is not 0 .. 12.");
+        CHECK.sentence("Promise 3", "IllegalArgumentException, when m is not 0 .. 12.");
         FairDesk desk = Desks.ofPeople(2);
         CHECK.taken("items(0)", () -> desk.items(0));
         CHECK.taken("items(12)", () -> desk.items(12));
@@ -37,7 +37,7 @@ final class EdgesOfGoodsTest {
     }
 
     private static void lastItemAndFirstThatIsNone() {
-        CHECK.sentence("items 0 .. m - 1");
+        CHECK.sentence("Terms", "items 0 .. m - 1");
         for (int m = 0; m <= 12; m++) {
             FairDesk desk = new FairDesk();
             desk.items(12);
@@ -61,7 +61,7 @@ final class EdgesOfGoodsTest {
     }
 
     private static void itemsKeepTheirValues() {
-        CHECK.sentence("There are m items, of the values that they had");
+        CHECK.sentence("Promise 3", "There are m items, of the values that they had");
         FairDesk desk = Desks.withGoods(Desks.row(1, 2, 3), Desks.row(4, 5, 1000));
         desk.items(3);
         CHECK.same("as many as before: the last one", desk.value(1, 2, 1000), 1000);
@@ -73,7 +73,7 @@ final class EdgesOfGoodsTest {
     }
 
     private static void itemsThatAreNewOrWentBefore() {
-        CHECK.sentence("new ones 0, also those that went before");
+        CHECK.sentence("Promise 3", "new ones 0, also those that went before");
         FairDesk desk = Desks.withGoods(Desks.row(1, 2, 3), Desks.row(4, 5, 6));
         desk.items(2);
         desk.items(4);
@@ -91,7 +91,7 @@ final class EdgesOfGoodsTest {
     }
 
     private static void itemsThatNobodyHolds() {
-        CHECK.sentence("which nobody holds");
+        CHECK.sentence("Promise 3", "which nobody holds");
         FairDesk desk = Desks.withGoods(Desks.rowsAlike(2, 12, 5));
         desk.picks(1);
         desk.items(12);
@@ -106,7 +106,7 @@ final class EdgesOfGoodsTest {
     }
 
     private static void valuesAreNothingToThousand() {
-        CHECK.sentence("IllegalArgumentException, when v is not 0 .. 1000");
+        CHECK.sentence("Promise 4", "IllegalArgumentException, when v is not 0 .. 1000");
         FairDesk desk = Desks.withGoods(Desks.row(7, 8), Desks.row(9, 10));
         for (int v : Desks.outside(0, 1000)) {
             CHECK.badArgument("value(1, 1, " + v + ")", () -> desk.value(1, 1, v));
@@ -117,7 +117,7 @@ final class EdgesOfGoodsTest {
     }
 
     private static void valueToNoSuchPersonOrOfNoSuchItem() {
-        CHECK.sentence("IndexOutOfBoundsException, when there is no such person or item.");
+        CHECK.sentence("Promise 4", "IndexOutOfBoundsException, when there is no such person or item.");
         FairDesk desk = Desks.withGoods(Desks.row(7, 8), Desks.row(9, 10));
         for (int none : Desks.outside(0, 1)) {
             CHECK.badIndex("value(" + none + ", 0, 1)", () -> desk.value(none, 0, 1));
@@ -131,7 +131,7 @@ final class EdgesOfGoodsTest {
     }
 
     private static void valueTellsWhatItWas() {
-        CHECK.sentence("An item's value to p becomes v: what it was.");
+        CHECK.sentence("Promise 4", "An item's value to p becomes v: what it was.");
         FairDesk desk = Desks.ofPeople(6);
         desk.items(12);
         CHECK.same("the last item to the last person at first", desk.value(5, 11, 1000), 0);
@@ -142,7 +142,7 @@ final class EdgesOfGoodsTest {
     }
 
     private static void giveTellsWhoHeldIt() {
-        CHECK.sentence("An item is given to p, or to NONE: who held it.");
+        CHECK.sentence("Promise 8", "An item is given to p, or to NONE: who held it.");
         FairDesk desk = Desks.ofPeople(6);
         desk.items(12);
         CHECK.same("nobody's to nobody", desk.give(11, FairDesk.NONE), FairDesk.NONE);
@@ -154,7 +154,7 @@ final class EdgesOfGoodsTest {
     }
 
     private static void giveToNoSuchPersonOrOfNoSuchItem() {
-        CHECK.sentence("IndexOutOfBoundsException, when there is no such person (nor NONE) or item.");
+        CHECK.sentence("Promise 8", "IndexOutOfBoundsException, when there is no such person (nor NONE) or item.");
         FairDesk desk = Desks.ofPeople(2);
         desk.items(2);
         desk.give(0, 0);
@@ -170,7 +170,7 @@ final class EdgesOfGoodsTest {
     }
 
     private static void holderOrNone() {
-        CHECK.sentence("Who holds an item, or NONE. IndexOutOfBoundsException, when there is no such item.");
+        CHECK.sentence("Promise 9", "Who holds an item, or NONE. IndexOutOfBoundsException, when there is no such item.");
         FairDesk desk = Desks.ofPeople(2);
         desk.items(2);
         desk.give(1, 1);
@@ -183,7 +183,7 @@ final class EdgesOfGoodsTest {
     }
 
     private static void worthOfNothingAndOfAll() {
-        CHECK.sentence("it is WORTH to somebody the sum of its items' values to them");
+        CHECK.sentence("Terms", "it is WORTH to somebody the sum of its items' values to them");
         FairDesk desk = Desks.withGoods(Desks.rowsAlike(2, 12, 1000));
         CHECK.same("an empty share", desk.worth(0, 1), 0);
         desk.give(11, 1);
@@ -198,7 +198,7 @@ final class EdgesOfGoodsTest {
     }
 
     private static void worthToNoSuchPerson() {
-        CHECK.sentence("What q's share is worth to p. IndexOutOfBoundsException, when there is no such person.");
+        CHECK.sentence("Promise 10", "What q's share is worth to p. IndexOutOfBoundsException, when there is no such person.");
         FairDesk desk = Desks.withGoods(Desks.row(7, 8), Desks.row(9, 10));
         for (int none : Desks.outside(0, 1)) {
             CHECK.badIndex("worth(" + none + ", 0)", () -> desk.worth(none, 0));
@@ -209,7 +209,7 @@ final class EdgesOfGoodsTest {
     }
 
     private static void envyIfAndIfNot() {
-        CHECK.sentence("By how much p envies q; 0 if not.");
+        CHECK.sentence("Promise 11", "By how much p envies q; 0 if not.");
         FairDesk desk = Desks.withGoods(Desks.row(5, 5, 1), Desks.row(1000, 999, 0));
         CHECK.same("nobody holds anything", desk.envy(0, 1, false), 0);
         desk.give(0, 0);
@@ -229,7 +229,7 @@ final class EdgesOfGoodsTest {
     }
 
     private static void envyWithDrop() {
-        CHECK.sentence("With drop, as if q did not have that item which is of the greatest value to p among q's.");
+        CHECK.sentence("Promise 11", "With drop, as if q did not have that item which is of the greatest value to p among q's.");
         FairDesk desk = Desks.withGoods(Desks.row(3, 8, 8, 2), Desks.row(9, 0, 0, 0));
         CHECK.same("q holds nothing", desk.envy(0, 1, true), 0);
         desk.give(1, 1);
@@ -243,10 +243,22 @@ final class EdgesOfGoodsTest {
         CHECK.same("0 if not", desk.envy(1, 0, true), 0);
         CHECK.same("oneself", desk.envy(1, 1, true), 0);
         CHECK.same("nothing was taken away", Desks.holders(desk, 4), "1 1 1 0");
+        FairDesk all = Desks.withGoods(Desks.rowsAlike(2, 12, 1000));
+        for (int item = 0; item < 12; item++) {
+            all.give(item, 1);
+        }
+        CHECK.same("of all items one", all.envy(0, 1, true), 11000);
+        FairDesk ends = Desks.withGoods(Desks.row(9, 1, 2), Desks.row(0, 0, 0));
+        ends.give(0, 1);
+        ends.give(1, 1);
+        CHECK.same("the first item", ends.envy(0, 1, true), 1);
+        ends.give(0, FairDesk.NONE);
+        ends.give(2, 1);
+        CHECK.same("the last item", ends.envy(0, 1, true), 1);
     }
 
     private static void envyOfNoSuchPerson() {
-        CHECK.sentence("IndexOutOfBoundsException likewise.");
+        CHECK.sentence("Promise 11", "IndexOutOfBoundsException likewise.");
         FairDesk desk = Desks.withGoods(Desks.row(7, 8), Desks.row(9, 10));
         desk.give(0, 1);
         for (boolean drop : new boolean[] {false, true}) {

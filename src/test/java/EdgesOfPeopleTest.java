@@ -16,12 +16,12 @@ final class EdgesOfPeopleTest {
     }
 
     private static void nobodyIsMinusOne() {
-        CHECK.sentence("NONE = -1: Nobody; nothing.");
+        CHECK.sentence("Terms", "NONE = -1: Nobody; nothing.");
         CHECK.same("NONE", FairDesk.NONE, -1);
     }
 
     private static void atFirstOnePerson() {
-        CHECK.sentence("One person");
+        CHECK.sentence("Promise 1", "One person");
         FairDesk desk = new FairDesk();
         CHECK.same("worth(0, 0)", desk.worth(0, 0), 0);
         CHECK.badIndex("worth(1, 0)", () -> desk.worth(1, 0));
@@ -29,10 +29,26 @@ final class EdgesOfPeopleTest {
         CHECK.badIndex("picks(1)", () -> desk.picks(1));
         CHECK.badIndex("room(0, 1, 0)", () -> desk.room(0, 1, 0));
         CHECK.badIndex("density(1, 0, 0)", () -> desk.density(1, 0, 0));
+        desk.items(2);
+        desk.value(0, 1, 9);
+        desk.picks(0);
+        CHECK.same("in turns", Desks.holders(desk, 2), "0 0");
+        CHECK.same("circles()", desk.circles(), 0);
+        CHECK.same("by circles", Desks.holders(desk, 2), "0 0");
+        CHECK.same("product()", desk.product(), 9);
+        CHECK.same("guarantee(0)", desk.guarantee(0), 9);
+        desk.total(5);
+        CHECK.badState("the one room's value is not the total", () -> desk.rooms());
+        desk.room(0, 0, 5);
+        CHECK.same("rooms()", desk.rooms(), 5);
+        CHECK.same("the rent", Desks.rents(desk, 1), "0 for 5/1");
+        desk.density(0, 0, 3);
+        desk.cut(false);
+        CHECK.same("the cake", Desks.taste(desk, 0, 0), "3/1");
     }
 
     private static void atFirstNoItems() {
-        CHECK.sentence("no items");
+        CHECK.sentence("Promise 1", "no items");
         FairDesk desk = new FairDesk();
         CHECK.badIndex("holder(0)", () -> desk.holder(0));
         CHECK.badIndex("value(0, 0, 0)", () -> desk.value(0, 0, 0));
@@ -44,7 +60,7 @@ final class EdgesOfPeopleTest {
     }
 
     private static void atFirstACakeOfLengthOne() {
-        CHECK.sentence("a cake of length 1");
+        CHECK.sentence("Promise 1", "a cake of length 1");
         for (boolean halves : new boolean[] {false, true}) {
             FairDesk desk = new FairDesk();
             desk.cut(halves);
@@ -53,7 +69,7 @@ final class EdgesOfPeopleTest {
     }
 
     private static void atFirstAllValuesAreNothing() {
-        CHECK.sentence("all values 0");
+        CHECK.sentence("Promise 1", "all values 0");
         FairDesk desk = new FairDesk();
         desk.items(12);
         for (int item = 0; item < 12; item++) {
@@ -67,7 +83,7 @@ final class EdgesOfPeopleTest {
     }
 
     private static void atFirstNothingIsDivided() {
-        CHECK.sentence("nothing divided");
+        CHECK.sentence("Promise 1", "nothing divided");
         FairDesk desk = new FairDesk();
         for (int what = 0; what < 3; what++) {
             int part = what;
@@ -84,7 +100,7 @@ final class EdgesOfPeopleTest {
     }
 
     private static void peopleAreOneToSix() {
-        CHECK.sentence("IllegalArgumentException, when n is not 1 .. 6.");
+        CHECK.sentence("Promise 2", "IllegalArgumentException, when n is not 1 .. 6.");
         for (int n : Desks.outside(1, 6)) {
             CHECK.badArgument("people(" + n + ")", () -> Desks.ofPeople(n));
         }
@@ -99,7 +115,7 @@ final class EdgesOfPeopleTest {
     }
 
     private static void lastPersonAndFirstThatIsNone() {
-        CHECK.sentence("PEOPLE are 0 .. n - 1");
+        CHECK.sentence("Terms", "PEOPLE are 0 .. n - 1");
         for (int n = 1; n <= 6; n++) {
             FairDesk desk = Desks.ofPeople(n);
             desk.items(1);
@@ -146,7 +162,11 @@ final class EdgesOfPeopleTest {
     }
 
     private static void otherwiseAllIsAsAtFirst() {
-        CHECK.sentence("There are n people; otherwise all is as at first.");
+        CHECK.sentence("Promise 2", "There are n people; otherwise all is as at first.");
+        FairDesk longer = Desks.withCake(Desks.rowsAlike(2, 16, 12));
+        longer.people(2);
+        longer.cut(true);
+        CHECK.same("the cake", Desks.pieces(longer, 2), "0/1 to 0/1, 0/1 to 1/1");
         for (int before : new int[] {1, 3, 6}) {
             for (int n = 1; n <= 6; n++) {
                 String what = "people(" + n + ") behind " + before;

@@ -17,6 +17,8 @@ final class EdgesOfRoomsTest {
         rentWhenNotDivided();
         rentInLowestTerms();
         rentsAreTheTotalTogether();
+        rentsThatNobodyEnvies();
+        leastSavingIsTheGreatest();
         CHECK.end();
     }
 
@@ -26,7 +28,7 @@ final class EdgesOfRoomsTest {
     }
 
     private static void valuesAreNothingToHundredThousand() {
-        CHECK.sentence("IllegalArgumentException, when v is not 0 .. 100000");
+        CHECK.sentence("Promise 13", "IllegalArgumentException, when v is not 0 .. 100000");
         FairDesk desk = Desks.withRooms(0, Desks.row(1, 2), Desks.row(3, 4));
         for (int v : Desks.outside(0, 100000)) {
             CHECK.badArgument("room(1, 1, " + v + ")", () -> desk.room(1, 1, v));
@@ -37,7 +39,7 @@ final class EdgesOfRoomsTest {
     }
 
     private static void noSuchPersonOrRoom() {
-        CHECK.sentence("IndexOutOfBoundsException, when there is no such person or room.");
+        CHECK.sentence("Promise 13", "IndexOutOfBoundsException, when there is no such person or room.");
         FairDesk desk = Desks.withRooms(0, Desks.row(1, 2), Desks.row(3, 4));
         for (int none : Desks.outside(0, 1)) {
             CHECK.badIndex("room(" + none + ", 0, 9)", () -> desk.room(none, 0, 9));
@@ -51,7 +53,7 @@ final class EdgesOfRoomsTest {
     }
 
     private static void roomTellsWhatItWas() {
-        CHECK.sentence("A room's value to p becomes v: what it was.");
+        CHECK.sentence("Promise 13", "A room's value to p becomes v: what it was.");
         FairDesk desk = Desks.ofPeople(6);
         CHECK.same("the last room to the last person at first", desk.room(5, 5, 100000), 0);
         CHECK.same("then", desk.room(5, 5, 0), 100000);
@@ -61,7 +63,7 @@ final class EdgesOfRoomsTest {
     }
 
     private static void whatWasDividedStays() {
-        CHECK.sentence("What was divided of the rooms stays.");
+        CHECK.sentence("Promise 13", "What was divided of the rooms stays.");
         FairDesk desk = Desks.withRooms(10, Desks.row(4, 6), Desks.row(5, 5));
         rooms("divided", desk, 11, 2, "1 for 11/2, 0 for 9/2");
         desk.room(0, 0, 6);
@@ -74,7 +76,7 @@ final class EdgesOfRoomsTest {
     }
 
     private static void totalIsNothingToSixHundredThousand() {
-        CHECK.sentence("IllegalArgumentException, when it is not 0 .. 600000.");
+        CHECK.sentence("Promise 14", "IllegalArgumentException, when it is not 0 .. 600000.");
         FairDesk desk = new FairDesk();
         desk.total(7);
         for (int total : Desks.outside(0, 600000)) {
@@ -86,7 +88,7 @@ final class EdgesOfRoomsTest {
     }
 
     private static void totalTellsWhatItWas() {
-        CHECK.sentence("The rent of all rooms becomes total: what it was.");
+        CHECK.sentence("Promise 14", "The rent of all rooms becomes total: what it was.");
         FairDesk desk = Desks.withRooms(10, Desks.row(4, 6), Desks.row(5, 5));
         desk.rooms();
         CHECK.same("to the same", desk.total(10), 10);
@@ -96,7 +98,7 @@ final class EdgesOfRoomsTest {
     }
 
     private static void roomsOfNothingAndOfMost() {
-        CHECK.sentence("Divides the rooms: the sum of the values of what people get.");
+        CHECK.sentence("Promise 15", "Divides the rooms: the sum of the values of what people get.");
         rooms("at first", new FairDesk(), 0, 1, "0 for 0/1");
         rooms("six at first", Desks.ofPeople(6), 0, 6,
                 "0 for 0/1, 1 for 0/1, 2 for 0/1, 3 for 0/1, 4 for 0/1, 5 for 0/1");
@@ -112,7 +114,7 @@ final class EdgesOfRoomsTest {
     }
 
     private static void roomsOfSeveralWays() {
-        CHECK.sentence("of several ways that in which the lowest person whose rooms differ has the lower one");
+        CHECK.sentence("Terms", "of several ways that in which the lowest person whose rooms differ has the lower one");
         rooms("all alike", Desks.withRooms(3, Desks.rowsAlike(3, 3, 1)), 3, 3, "0 for 1/1, 1 for 1/1, 2 for 1/1");
         // Only 2 wants room 0, the others take the lower ones of those that are left.
         int[][] rows = {{0, 2, 2}, {0, 2, 2}, {4, 0, 0}};
@@ -120,7 +122,7 @@ final class EdgesOfRoomsTest {
     }
 
     private static void roomsNotTheTotalTogether() {
-        CHECK.sentence("IllegalStateException, when to some person the values of all rooms are not the total together");
+        CHECK.sentence("Promise 15", "IllegalStateException, when to some person the values of all rooms are not the total together");
         for (int n = 1; n <= 6; n++) {
             for (int p = 0; p < n; p++) {
                 FairDesk desk = Desks.withRooms(5 * n, Desks.rowsAlike(n, n, 5));
@@ -139,7 +141,7 @@ final class EdgesOfRoomsTest {
     }
 
     private static void refusedRoomsChangeNothing() {
-        CHECK.sentence("(nothing changes)");
+        CHECK.sentence("Promise 15", "(nothing changes)");
         FairDesk desk = Desks.withRooms(10, Desks.row(4, 6), Desks.row(5, 5));
         desk.room(1, 0, 4);
         CHECK.badState("rooms() before any", () -> desk.rooms());
@@ -155,7 +157,7 @@ final class EdgesOfRoomsTest {
     }
 
     private static void rentOfNoSuchPersonOrWhat() {
-        CHECK.sentence("IndexOutOfBoundsException, when there is no such person, or what (rent)");
+        CHECK.sentence("Promise 16", "IndexOutOfBoundsException, when there is no such person, or what");
         FairDesk divided = Desks.withRooms(10, Desks.row(4, 6), Desks.row(5, 5));
         divided.rooms();
         FairDesk not = Desks.ofPeople(2);
@@ -173,7 +175,7 @@ final class EdgesOfRoomsTest {
     }
 
     private static void rentWhenNotDivided() {
-        CHECK.sentence("IllegalStateException, when the rooms were not divided.");
+        CHECK.sentence("Promise 16", "IllegalStateException, when the rooms were not divided.");
         FairDesk desk = Desks.withRooms(10, Desks.row(4, 6), Desks.row(5, 5));
         for (int what = 0; what < 3; what++) {
             int part = what;
@@ -186,8 +188,8 @@ final class EdgesOfRoomsTest {
     }
 
     private static void rentInLowestTerms() {
-        CHECK.sentence("A FRACTION is told in lowest terms, what is above the line (0 above 1 for nothing) and what is "
-                + "below it (above 0). (rents)");
+        CHECK.sentence("Terms", "A FRACTION is told in lowest terms, what is above the line (0 above 1 for nothing) and what is "
+                + "below it (above 0).");
         rooms("whole", Desks.withRooms(6, Desks.rowsAlike(3, 3, 2)), 6, 3, "0 for 2/1, 1 for 2/1, 2 for 2/1");
         rooms("nothing", Desks.withRooms(0, Desks.rowsAlike(4, 4, 0)), 0, 4,
                 "0 for 0/1, 1 for 0/1, 2 for 0/1, 3 for 0/1");
@@ -198,7 +200,7 @@ final class EdgesOfRoomsTest {
     }
 
     private static void rentsAreTheTotalTogether() {
-        CHECK.sentence("The RENTS are FRACTIONS, together the total");
+        CHECK.sentence("Terms", "The RENTS are FRACTIONS, together the total");
         for (int n = 1; n <= 6; n++) {
             int[][] rows = new int[n][n];
             for (int p = 0; p < n; p++) {
@@ -215,5 +217,33 @@ final class EdgesOfRoomsTest {
             }
             CHECK.same("of " + n + " people, in sixtieths", sum, 6000000);
         }
+    }
+
+    private static void rentsThatNobodyEnvies() {
+        CHECK.sentence("Terms", "to nobody another's room less its rent is more than their own saving");
+        // Each but the last wants the next one's room by one more than that one does: so each must save one more.
+        int[][] rows = {{49, 11, 0, 0, 0, 0}, {39, 10, 11, 0, 0, 0}, {39, 0, 10, 11, 0, 0}, {39, 0, 0, 10, 11, 0},
+            {39, 0, 0, 0, 10, 11}, {40, 2, 2, 3, 3, 10}};
+        FairDesk desk = Desks.withRooms(60, rows);
+        rooms("savings of 9 to 4", desk, 99, 6, "0 for 40/1, 1 for 2/1, 2 for 3/1, 3 for 4/1, 4 for 5/1, 5 for 6/1");
+        int[][] turnedRound = new int[6][6];
+        for (int p = 0; p < 6; p++) {
+            for (int r = 0; r < 6; r++) {
+                turnedRound[p][r] = rows[5 - p][5 - r];
+                desk.room(p, r, p == r ? 60 : 0);
+            }
+        }
+        rooms("equal savings on the same desk", desk, 360, 6,
+                "0 for 10/1, 1 for 10/1, 2 for 10/1, 3 for 10/1, 4 for 10/1, 5 for 10/1");
+        rooms("savings of 4 to 9", Desks.withRooms(60, turnedRound), 99, 6,
+                "0 for 6/1, 1 for 5/1, 2 for 4/1, 3 for 3/1, 4 for 2/1, 5 for 40/1");
+    }
+
+    private static void leastSavingIsTheGreatest() {
+        CHECK.sentence("Terms", "of all such ones those whose least saving is the greatest possible");
+        // No rents from 0 to 10 are envied here; only equal ones leave nobody less than 5.
+        rooms("each wants another", Desks.withRooms(10, Desks.row(10, 0), Desks.row(0, 10)), 20, 2, "0 for 5/1, 1 for 5/1");
+        rooms("a saving of nothing", Desks.withRooms(9, Desks.row(4, 5), Desks.row(4, 5)), 9, 2, "0 for 4/1, 1 for 5/1");
+        rooms("one alone saves nothing", Desks.withRooms(7, Desks.row(7)), 7, 1, "0 for 7/1");
     }
 }

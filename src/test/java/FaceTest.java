@@ -6,7 +6,7 @@ import java.util.Arrays;
 import java.util.Set;
 import java.util.TreeSet;
 
-/** The public face as the document writes it, promise 1, and rules 1, 5 and 11 of LANGUAGE.md as far as they can be seen from outside. */
+/** The public face as the document writes it, and rules 1, 5 and 11 of LANGUAGE.md as far as they can be seen from outside. */
 final class FaceTest {
     private static final String[] FACE = {
         "void people(int) throws IllegalArgumentException",
@@ -37,7 +37,6 @@ final class FaceTest {
         faceIsTheDocuments();
         nothingElseCanBeSeen();
         insideKeepsToTheRules();
-        newObject();
         CHECK.end();
     }
 
@@ -111,28 +110,5 @@ final class FaceTest {
 
     private static boolean isFinalIfStatic(Field field) {
         return !Modifier.isStatic(field.getModifiers()) || Modifier.isFinal(field.getModifiers());
-    }
-
-    private static void newObject() {
-        FairDesk desk = new FairDesk();
-        CHECK.badIndex("no items: holder(0)", () -> desk.holder(0));
-        CHECK.same("worth(0, 0)", desk.worth(0, 0), 0);
-        CHECK.badIndex("one person: worth(0, 1)", () -> desk.worth(0, 1));
-        CHECK.badState("rooms not divided: rent(0, 0)", () -> desk.rent(0, 0));
-        CHECK.badState("cake not cut: piece(0, 0)", () -> desk.piece(0, 0));
-        CHECK.badState("cake not cut: taste(0, 0, 0)", () -> desk.taste(0, 0, 0));
-        CHECK.same("guarantee(0)", desk.guarantee(0), 0);
-        CHECK.same("product()", desk.product(), 1);
-        CHECK.same("circles()", desk.circles(), 0);
-        CHECK.same("room(0, 0, 0)", desk.room(0, 0, 0), 0);
-        CHECK.same("total(0)", desk.total(0), 0);
-        CHECK.same("rooms()", desk.rooms(), 0);
-        for (int k = 0; k < 16; k++) {
-            CHECK.same("density of part " + k, desk.density(0, k, 0), 0);
-        }
-        desk.cut(false);
-        CHECK.same("the cake's length", desk.piece(0, 2), 1);
-        CHECK.same("below the line", desk.piece(0, 3), 1);
-        CHECK.same("what the cake is worth", desk.taste(0, 0, 0), 0);
     }
 }

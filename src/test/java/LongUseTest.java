@@ -9,7 +9,7 @@ final class LongUseTest {
     private static final Check CHECK = new Check("LongUseTest");
 
     public static void main(String[] args) {
-        CHECK.sentence("An object is used for at most 512 calls after it has been made");
+        CHECK.sentence("What it is", "An object is used for at most 512 calls after it has been made");
         goodsAsTheLastCall();
         roomsAsTheLastCall();
         cakeAsTheLastCall();
