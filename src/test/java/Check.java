@@ -6,6 +6,7 @@ final class Check {
     }
 
     private static final int MOST_SHOWN = 40;
+    private static final long MOST_MILLISECONDS = 300_000;
 
     private final String test;
     private String sentence = "";
@@ -15,6 +16,20 @@ final class Check {
 
     Check(String test) {
         this.test = test;
+        Thread watch = new Thread(this::endLateTest);
+        watch.setDaemon(true);
+        watch.start();
+    }
+
+    /** A call that does not end would else hold up all tests instead of failing its own. */
+    private void endLateTest() {
+        try {
+            Thread.sleep(MOST_MILLISECONDS);
+        } catch (InterruptedException unexpected) {
+            System.out.println(test + ": the watch was interrupted");
+        }
+        System.out.println(test + ": " + sentence + "does not end");
+        Runtime.getRuntime().halt(1);
     }
 
     /** What is looked at from now on is for these words of a part of the document; a complaint tells them. */
