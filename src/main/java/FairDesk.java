@@ -384,6 +384,9 @@ public final class FairDesk {
 
     /** Looks for the way to give the items that is best BY PRODUCT. */
     private static final class ProductSearch {
+        // Six people share six items of 1000 at most by product; fewer people never come as far with theirs.
+        private static final long MOST_PRODUCT = 1000000000000000000L;
+
         private int people;
         private int items;
         private int[][] values;
@@ -445,9 +448,9 @@ public final class FairDesk {
             }
         }
 
-        /** What is hoped for may be beyond a long; what people really hold never is. */
+        /** What is hoped for may be beyond a long; what people really hold never comes to more than the most. */
         private static long timesAtMost(long product, int factor) {
-            return factor > 0 && product > Long.MAX_VALUE / factor ? Long.MAX_VALUE : product * factor;
+            return factor > 0 && product > MOST_PRODUCT / factor ? MOST_PRODUCT : product * factor;
         }
     }
 

@@ -227,6 +227,13 @@ final class EdgesOfDivisionTest {
     private static void productAtItsGreatest() {
         CHECK.sentence("Promise 7", "Divides the goods BY PRODUCT: that product");
         product("six", Desks.withGoods(Desks.rowsAlike(6, 6, 1000)), 1000000000000000000L, "0 1 2 3 4 5");
+        int[][] lastWay = Desks.rowsAlike(6, 6, 999);
+        for (int p = 0; p < 6; p++) {
+            lastWay[p][5 - p] = 1000;
+        }
+        product("six, at the last way only", Desks.withGoods(lastWay), 1000000000000000000L, "5 4 3 2 1 0");
+        lastWay[0][5] = 999;
+        product("six, a little less", Desks.withGoods(lastWay), 999000000000000000L, "5 4 3 2 1 0");
         product("five", Desks.withGoods(Desks.rowsAlike(5, 6, 1000)), 2000000000000000L, "0 0 1 2 3 4");
         product("one", Desks.withGoods(Desks.rowsAlike(1, 12, 1000)), 12000, "0 0 0 0 0 0 0 0 0 0 0 0");
         FairDesk held = Desks.withGoods(Desks.row(3, 0), Desks.row(0, 3));

@@ -6,7 +6,7 @@ import java.util.Arrays;
 import java.util.Set;
 import java.util.TreeSet;
 
-/** The public face as the document writes it, and rules 1, 5 and 11 of LANGUAGE.md as far as they can be seen from outside. */
+/** The public face as the document writes it, and that nothing else of the class can be seen. */
 final class FaceTest {
     private static final String[] FACE = {
         "void people(int) throws IllegalArgumentException",
@@ -36,7 +36,6 @@ final class FaceTest {
     public static void main(String[] args) {
         faceIsTheDocuments();
         nothingElseCanBeSeen();
-        insideKeepsToTheRules();
         CHECK.end();
     }
 
@@ -79,36 +78,5 @@ final class FaceTest {
         CHECK.same("the number of constructors", constructors.length, 1);
         CHECK.same("the constructor's parameters", constructors[0].getParameterCount(), 0);
         CHECK.isTrue("the constructor is not public", Modifier.isPublic(constructors[0].getModifiers()));
-    }
-
-    private static void insideKeepsToTheRules() {
-        Set<String> publicNames = new TreeSet<>();
-        for (String line : FACE) {
-            publicNames.add(line.substring(line.indexOf(' ') + 1, line.indexOf('(')));
-        }
-        Class<?>[] inside = FairDesk.class.getDeclaredClasses();
-        CHECK.isTrue("more than twelve classes", inside.length < 12);
-        for (Class<?> one : inside) {
-            CHECK.isTrue(one + " is not static, or public", Modifier.isStatic(one.getModifiers()) && !Modifier.isPublic(one.getModifiers()));
-            CHECK.isTrue(one + " has many fields", one.getDeclaredFields().length <= 20);
-            for (Method method : one.getDeclaredMethods()) {
-                CHECK.isTrue(method + " bears the name of a public one", !publicNames.contains(method.getName()));
-                CHECK.isTrue(method + " has many parameters", method.getParameterCount() <= 7);
-            }
-            for (Field field : one.getDeclaredFields()) {
-                CHECK.isTrue(field + " is static and can be changed", isFinalIfStatic(field));
-            }
-        }
-        for (Method method : FairDesk.class.getDeclaredMethods()) {
-            boolean hidden = Modifier.isPrivate(method.getModifiers());
-            CHECK.isTrue(method + " bears the name of a public one", !(hidden && publicNames.contains(method.getName())));
-        }
-        for (Field field : FairDesk.class.getDeclaredFields()) {
-            CHECK.isTrue(field + " is static and can be changed", isFinalIfStatic(field));
-        }
-    }
-
-    private static boolean isFinalIfStatic(Field field) {
-        return !Modifier.isStatic(field.getModifiers()) || Modifier.isFinal(field.getModifiers());
     }
 }
