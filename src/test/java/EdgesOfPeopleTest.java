@@ -16,7 +16,7 @@ final class EdgesOfPeopleTest {
     }
 
     private static void nobodyIsMinusOne() {
-        CHECK.sentence("Terms", "NONE = -1: Nobody; nothing.");
+        CHECK.sentence("Terms", "`NONE = -1`: Nobody; nothing.");
         CHECK.same("NONE", FairDesk.NONE, -1);
     }
 
